@@ -235,7 +235,7 @@ public final class LoopSpaces {
         }
         search.begin(spaces[space], shuffles[n]);
         int held = 0;
-        while (held <= MOST_TABLES && search.findNext()) {
+        while (held <= MOST_TABLES && search.findNext(false)) {
             held++;
         }
         return held;
@@ -884,7 +884,6 @@ public final class LoopSpaces {
 
         void wipe() {
             length = 0;
-            place = 0;
         }
 
         /** The sign behind blanks, or END. */
@@ -1428,7 +1427,8 @@ public final class LoopSpaces {
             panes++;
         }
 
-        boolean findNext() {
+        /** With isLayers those alone of which none LIKE it is ahead. */
+        boolean findNext(boolean isLayers) {
             if (turns == 0) {
                 boolean isFirstTime = !isBegun;
                 isBegun = true;
@@ -1438,7 +1438,7 @@ public final class LoopSpaces {
                 chosen[level]++;
                 if (chosen[level] >= shuffles.order) {
                     level--;
-                } else if (doRimsHold()) {
+                } else if (doRimsHold() && (!isLayers || isFirstOfLike())) {
                     if (level == turns - 1) {
                         return true;
                     }
@@ -1451,8 +1451,8 @@ public final class LoopSpaces {
 
         /** The next TABLE that is a LAYER's. */
         boolean findNextLayer() {
-            for (int round = 0; round < GUARD && findNext(); round++) {
-                if (isOne() && isFirstOfLike()) {
+            for (int round = 0; round < GUARD && findNext(true); round++) {
+                if (isOne()) {
                     return true;
                 }
             }
@@ -1498,13 +1498,14 @@ public final class LoopSpaces {
             return seen == (1 << shuffles.storeys) - 1;
         }
 
+        /** Looks at the TURNS chosen so far: one LIKE them that is ahead is so whatever comes behind. */
         private boolean isFirstOfLike() {
             for (int numbers = 1; numbers < shuffles.order; numbers++) {
                 int turn = 0;
-                while (turn < turns && shuffles.renumber(chosen[turn], numbers) == chosen[turn]) {
+                while (turn < level && shuffles.renumber(chosen[turn], numbers) == chosen[turn]) {
                     turn++;
                 }
-                if (turn < turns && shuffles.renumber(chosen[turn], numbers) < chosen[turn]) {
+                if (shuffles.renumber(chosen[turn], numbers) < chosen[turn]) {
                     return false;
                 }
             }
@@ -1521,7 +1522,7 @@ public final class LoopSpaces {
                 }
             }
             begin(space, used);
-            for (int round = 0; round < GUARD && findNext(); round++) {
+            for (int round = 0; round < GUARD && findNext(false); round++) {
                 if (moveAlong(wordTurns, 0, length) != 0) {
                     return true;
                 }
@@ -1674,7 +1675,7 @@ public final class LoopSpaces {
 
         private void seek(Trail word) {
             count = 0;
-            push(word, 0, word.count);
+            pushAll(word, 0, word.count);
             pack();
             soughtHead = head;
             soughtTail = tail;
@@ -1706,7 +1707,7 @@ public final class LoopSpaces {
         private void draw(Space space, Trail word, int place, int pane, int first, boolean isBack) {
             int length = space.lengths[pane];
             count = 0;
-            push(word, 0, place);
+            pushAll(word, 0, place);
             int at = first;
             for (int i = 0; i < length; i++) {
                 int step = space.rimStep(pane, at);
@@ -1717,10 +1718,10 @@ public final class LoopSpaces {
                     at = at == length - 1 ? 0 : at + 1;
                 }
             }
-            push(word, place, word.count);
+            pushAll(word, place, word.count);
         }
 
-        private void push(Trail word, int first, int behind) {
+        private void pushAll(Trail word, int first, int behind) {
             for (int i = first; i < behind; i++) {
                 push(word.steps[i]);
             }

@@ -246,10 +246,14 @@ public final class LayersTest {
         x.edge(0, 0, 0);
         Checks.word(x, 1, 0, "ad");
         CHECKS.same("an edge that was not", x.lift(1, 0), LoopSpaces.NOT);
+        Checks.word(x, 1, 0, "Da");
+        CHECKS.same("an edge that was not, first", x.lift(1, 0), LoopSpaces.NOT);
         CHECKS.same("the other word", x.lift(0, 1), 1);
         Checks.text(x, 0, "1;a=0>0;b=0>0;c=0>0");
         Checks.word(x, 0, 0, "ab");
         CHECKS.same("b was not of the part", x.lift(0, 0), LoopSpaces.NOT);
+        Checks.word(x, 0, 0, "ba");
+        CHECKS.same("b was not of the part, first", x.lift(0, 0), LoopSpaces.NOT);
         Checks.word(x, 0, 0, "ac");
         CHECKS.same("by numbers of edges", x.lift(0, 0), 1);
     }

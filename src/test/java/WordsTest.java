@@ -14,6 +14,7 @@ public final class WordsTest {
         drawn();
         drawnOneWay();
         drawnToSixteen();
+        drawnUnlikeInOneStep();
         drawnRefused();
         CHECKS.end("WordsTest");
     }
@@ -220,6 +221,25 @@ public final class WordsTest {
         // what lies between these two would have 17 steps
         drawn(two, "aaaaaaaaaaaaaaab", "aaaaaaaaaaaaaaae", LoopSpaces.SPENT);
         drawn("1;a=0>0;b=0>0;c=0>0;:bc", "aaaaaaaaaaaaaaab", "aaaaaaaaaaaaaaaC", 1);
+    }
+
+    /** Words of all lengths that differ in one step alone are never taken for one another. */
+    private static void drawnUnlikeInOneStep() {
+        for (int place = 0; place < 16; place++) {
+            LoopSpaces x = new LoopSpaces();
+            for (int e = 0; e < 12; e++) {
+                x.edge(0, 0, 0);
+            }
+            String ahead = "b".repeat(place);
+            String behind = "b".repeat(15 - place);
+            Checks.word(x, 0, 0, ahead + "b" + behind);
+            for (char letter : "acdefghijklACDEFGHIJKL".toCharArray()) {
+                Checks.word(x, 1, 0, ahead + letter + behind);
+                CHECKS.same(letter + " at " + place, x.drawn(0, 1), LoopSpaces.SPENT);
+            }
+            Checks.word(x, 1, 0, ahead);
+            CHECKS.same("ends at " + place, x.drawn(0, 1), LoopSpaces.SPENT);
+        }
     }
 
     private static void drawnRefused() {
