@@ -111,10 +111,10 @@ public final class LoopSpaces {
         Space own = spaces[space];
         tape.rewind();
         boolean read = tape.readRim(own, pen) && tape.isRead();
-        int place = tape.place;
+        int fault = tape.faultHere();
         tape.wipe();
         if (!read) {
-            return FAULT - place;
+            return fault;
         }
         if (own.panes >= MOST_PANES) {
             return FULL;
@@ -129,10 +129,10 @@ public final class LoopSpaces {
         }
         tape.rewind();
         boolean read = tape.readSpace(draft, pen);
-        int place = tape.place;
+        int fault = tape.faultHere();
         tape.wipe();
         if (!read) {
-            return FAULT - place;
+            return fault;
         }
         Space before = spaces[space];
         spaces[space] = draft;
@@ -335,10 +335,10 @@ public final class LoopSpaces {
         tape.rewind();
         tape.readSteps(spaces[space], pen, MOST_WORD);
         boolean read = tape.isRead();
-        int place = tape.place;
+        int fault = tape.faultHere();
         tape.wipe();
         if (!read) {
-            return FAULT - place;
+            return fault;
         }
         return keepReduced(slot, space);
     }
@@ -863,13 +863,13 @@ public final class LoopSpaces {
         }
     }
 
-    /** THE TAPE and the reading of it; where a reading fails, place is at what can't stand there. */
+    /** THE TAPE and the reading of it; a reading that fails leaves off at what can't stand there. */
     private static final class Tape {
         private static final int END = -1;
 
         final char[] signs = new char[MOST_TAPE];
         int length;
-        int place;
+        private int place;
 
         void put(int sign) {
             if (length < MOST_TAPE) {
@@ -904,6 +904,12 @@ public final class LoopSpaces {
 
         boolean isRead() {
             return look() == END;
+        }
+
+        /** The FAULT at the first sign that was not read, whether a reading has passed the blanks or not. */
+        int faultHere() {
+            look();
+            return FAULT - place;
         }
 
         boolean readSpace(Space space, Trail pen) {
@@ -949,7 +955,6 @@ public final class LoopSpaces {
 
         boolean readRim(Space space, Trail pen) {
             readSteps(space, pen, MOST_RIM);
-            look();
             return pen.isRim();
         }
 

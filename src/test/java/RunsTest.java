@@ -387,5 +387,31 @@ public final class RunsTest {
         }
         int s = space();
         due("text(" + s + ")", x.text(s), m.text(s));
+        type(spoilt(fullText() + soup()));
+        due("text(" + s + ")", x.text(s), m.text(s));
+    }
+
+    /** All the EDGES, all the PANES, both, or nearly so. */
+    private String fullText() {
+        int edges = random.nextInt(4) == 0 ? 1 + random.nextInt(12) : 12;
+        int panes = random.nextInt(4) == 0 ? random.nextInt(9) : 8;
+        StringBuilder text = new StringBuilder("1");
+        for (int e = 0; e < edges; e++) {
+            text.append(';').append((char) ('a' + e)).append("=0>0");
+        }
+        for (int f = 0; f < panes; f++) {
+            text.append(";:").append((char) ((random.nextBoolean() ? 'a' : 'A') + random.nextInt(edges)));
+        }
+        return text.toString();
+    }
+
+    /** Signs of texts in no order, with blanks among them. */
+    private String soup() {
+        String signs = "   ;;:a=0>Ml1x";
+        StringBuilder soup = new StringBuilder(random.nextInt(3) == 0 ? "" : ";");
+        for (int k = random.nextInt(8); k > 0; k--) {
+            soup.append(signs.charAt(random.nextInt(signs.length())));
+        }
+        return soup.toString();
     }
 }

@@ -185,7 +185,14 @@ public final class SpacesTest {
         CHECKS.same("the other's stay", x.about(0, 0), 2);
     }
 
+    /** The FAULT, and the same behind blanks. */
     private static void fault(String text, int due) {
+        faultOf(text, due);
+        int place = -20 - due;
+        faultOf(text.substring(0, place) + "  " + text.substring(place), due - 2);
+    }
+
+    private static void faultOf(String text, int due) {
         LoopSpaces x = new LoopSpaces();
         x.corners(1, 5);
         CHECKS.same("text " + text, Checks.text(x, 1, text), due);
@@ -236,6 +243,9 @@ public final class SpacesTest {
         fault(FULL_EDGES + ";m=0>0", -94);
         fault(FULL_EDGES + EIGHT_PANES + ";:a", -20 - 73 - 25);
         fault(FULL_EDGES + EIGHT_PANES + ";m", -20 - 73 - 25);
+        fault(FULL_EDGES + EIGHT_PANES + ";", -20 - 73 - 25);
+        fault(FULL_EDGES + EIGHT_PANES + ";;", -20 - 73 - 25);
+        fault(FULL_EDGES + EIGHT_PANES + "  x", -20 - 73 - 26);
         fault("1;a=0>0" + EIGHT_PANES + ";:a", -52);
     }
 
