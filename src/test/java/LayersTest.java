@@ -10,6 +10,8 @@ public final class LayersTest {
         order();
         laid();
         laidOverAPart();
+        oneBehindTheOther();
+        panesOfThePart();
         refusedLayers();
         storeys();
         moves();
@@ -150,6 +152,36 @@ public final class LayersTest {
         rim(x, 1, 1, 3, 4);
         rim(x, 2, 105, 104);
         rim(x, 3, 104, 105);
+    }
+
+    /** c goes as a and then b: of two that change two storeys each the order tells. */
+    private static void oneBehindTheOther() {
+        LoopSpaces x = new LoopSpaces();
+        Checks.text(x, 0, "1;a=0>0;b=0>0;c=0>0;:abC");
+        CHECKS.same("as of a and b alone", x.layers(0, 3), 7);
+        int unlike = 0;
+        for (int i = 0; i < 7; i++) {
+            x.layer(0, 3, i);
+            for (int s = 0; s < 3; s++) {
+                CHECKS.same("layer " + i + ", storey " + s, x.moves(2, s), x.moves(1, x.moves(0, s)));
+                unlike += x.moves(2, s) == x.moves(0, x.moves(1, s)) ? 0 : 1;
+            }
+        }
+        CHECKS.holds("b and then a goes elsewhere in some", unlike > 0);
+    }
+
+    /** RIMS of one letter where longer ones of another piece were before. */
+    private static void panesOfThePart() {
+        LoopSpaces x = new LoopSpaces();
+        Checks.text(x, 0, "2;a=0>0;b=1>1;:bbbbbbbb;:aaaaaaaa");
+        CHECKS.same("a eight times", x.tables(0, 3), 4);
+        Checks.text(x, 1, "2;a=0>0;b=1>1;:bbbbbbbb;:aaaaaaaa");
+        for (int round = 0; round < 2; round++) {
+            Checks.text(x, 0, "2;a=0>0;b=1>1;:a;:b");
+            CHECKS.same("a once", x.tables(0, 3), 1);
+            Checks.text(x, 0, "2;a=0>0;b=1>1;:b;:b");
+            CHECKS.same("a never", x.tables(0, 3), 6);
+        }
     }
 
     private static void refusedLayers() {

@@ -20,7 +20,7 @@ public final class RunsTest {
     }
 
     public static void main(String[] args) {
-        int runs = args.length > 1 ? Integer.parseInt(args[1]) : 400;
+        int runs = args.length > 1 ? Integer.parseInt(args[1]) : 600;
         Checks checks = new Checks();
         for (int seed = 0; seed < runs && checks.isClean(); seed++) {
             new RunsTest(seed, checks).run(seed);
@@ -33,6 +33,9 @@ public final class RunsTest {
         for (int s = 0; s < 2; s++) {
             type(randomText());
             due("text(" + s + ")", x.text(s), m.text(s));
+        }
+        for (int tries = random.nextInt(6); tries > 0 && m.cover == null; tries--) {
+            layer();
         }
         while (calls < length && checks.isClean()) {
             call();
@@ -64,7 +67,7 @@ public final class RunsTest {
     private void type(String text) {
         int at = 0;
         while (at < text.length()) {
-            int n = Math.min(1 + random.nextInt(8), text.length() - at);
+            int n = Math.min(random.nextInt(4) > 0 ? 8 : 1 + random.nextInt(8), text.length() - at);
             long w = Checks.packed(text.substring(at, at + n));
             if (n < 8 && random.nextBoolean()) {
                 w |= random.nextLong() << 8 * n;
@@ -85,7 +88,7 @@ public final class RunsTest {
             case 7 -> bends();
             case 8 -> tables();
             case 9, 10 -> layer();
-            case 11 -> moves();
+            case 11 -> lifts();
             case 12, 13, 14 -> words();
             case 15 -> walk();
             case 16 -> aboutSlots();
@@ -125,6 +128,28 @@ public final class RunsTest {
     }
 
     private String randomText() {
+        return random.nextInt(3) == 0 ? loopsText() : walksText();
+    }
+
+    /** One CORNER, few EDGES, RIMS with letters again and again: of these there are bends. */
+    private String loopsText() {
+        int edges = 1 + random.nextInt(4);
+        StringBuilder text = new StringBuilder("1");
+        for (int e = 0; e < edges; e++) {
+            text.append(';').append((char) ('a' + e)).append("=0>0");
+        }
+        for (int f = random.nextInt(edges + 2); f > 0; f--) {
+            StringBuilder rim = new StringBuilder();
+            for (int k = random.nextInt(3); k >= 0; k--) {
+                char letter = (char) ((random.nextBoolean() ? 'a' : 'A') + random.nextInt(edges));
+                rim.append(String.valueOf(letter).repeat(1 + random.nextInt(4)));
+            }
+            text.append(";:").append(rim.substring(0, Math.min(8, rim.length())));
+        }
+        return text.toString();
+    }
+
+    private String walksText() {
         int corners = random.nextInt(3) > 0 ? 1 + random.nextInt(3) : 1 + random.nextInt(8);
         int edges = random.nextInt(3) > 0 ? 1 + random.nextInt(4) : random.nextInt(14);
         int panes = random.nextInt(3) > 0 ? random.nextInt(4) : random.nextInt(10);
@@ -258,28 +283,51 @@ public final class RunsTest {
         int s = space();
         int n = any(2, 5);
         int i = any(0, random.nextBoolean() ? 2 : 12);
-        due("layer(" + s + ", " + n + ", " + i + ")", x.layer(s, n, i), m.layer(s, n, i));
+        int laid = m.layer(s, n, i);
+        due("layer(" + s + ", " + n + ", " + i + ")", x.layer(s, n, i), laid);
+        if (laid >= 0) {
+            lookAtLayer();
+        }
+    }
+
+    private void lookAtLayer() {
+        for (int k = 0; k < 6; k++) {
+            moves();
+            int e = random.nextInt(m.cover.edges.size());
+            due("told(2, " + e + ", 1)", x.told(2, e, 1), m.told(2, e, 1));
+            due("told(2, " + e + ", 2)", x.told(2, e, 2), m.told(2, e, 2));
+            int f = random.nextInt(m.cover.rims.size() + 1);
+            int i = random.nextInt(4);
+            due("rim(2, " + f + ", " + i + ")", x.rim(2, f, i), m.rim(2, f, i));
+        }
+        int d = random.nextInt(3);
+        due("holes(2, " + d + ", 3)", x.holes(2, d, 3), m.holes(2, d, 3));
     }
 
     private void moves() {
-        int turn = any(0, 4);
-        int storey = any(0, 4);
+        int turn = any(0, m.cover == null ? 4 : Math.max(1, m.coverTable.size()));
+        int storey = any(0, m.cover == null ? 4 : m.coverStoreys);
         due("moves(" + turn + ", " + storey + ")", x.moves(turn, storey), m.moves(turn, storey));
+    }
+
+    private void lifts() {
         int slot = any(0, 4);
+        int storey = any(0, m.cover == null ? 4 : m.coverStoreys);
         due("lift(" + slot + ", " + storey + ")", x.lift(slot, storey), m.lift(slot, storey));
         due("moved(" + slot + ")", x.moved(slot), m.moved(slot));
     }
 
     private void words() {
         int slot = any(0, 4);
-        int s = space();
+        int s = m.cover != null && random.nextBoolean() ? m.coverOver : space();
         if (Model.own(s)) {
             int begin = random.nextInt(3) > 0 ? 0 : random.nextInt(m.spaces[s].corners);
             type(spoilt(letters(walkFrom(m.spaces[s], begin, random.nextInt(18)))));
         }
         due("word(" + slot + ", " + s + ")", x.word(slot, s), m.word(slot, s));
-        int storey = any(0, 3);
+        int storey = any(0, m.cover == null ? 3 : m.coverStoreys);
         due("lift(" + slot + ", " + storey + ")", x.lift(slot, storey), m.lift(slot, storey));
+        due("moved(" + slot + ")", x.moved(slot), m.moved(slot));
     }
 
     private void walk() {
@@ -312,29 +360,47 @@ public final class RunsTest {
         }
     }
 
-    /** Two words that a few rims may lie between. */
+    /** Words of like ends, that a few rims may lie between. */
     private void drawn() {
-        int s = random.nextInt(2);
         int a = any(0, 4);
         int b = any(0, 4);
-        if (random.nextInt(4) > 0 && a >= 0 && a < 4 && m.slots[a] != null) {
-            s = m.slots[a].space;
-            Model.Word word = m.slots[a];
-            for (int k = random.nextInt(3); k > 0; k--) {
-                List<List<Integer>> next = new ArrayList<>(Model.next(m.spaces[s], word));
-                if (!next.isEmpty()) {
-                    Model.Word drawn = new Model.Word();
-                    drawn.begin = word.begin;
-                    drawn.end = word.end;
-                    drawn.steps = next.get(random.nextInt(next.size()));
-                    word = drawn;
-                }
-            }
-            type(letters(word.steps));
+        if (a >= 0 && a < 4 && m.slots[a] == null) {
+            int s = random.nextInt(2);
+            type(letters(walkFrom(m.spaces[s], 0, random.nextInt(8))));
+            due("word(" + a + ", " + s + ")", x.word(a, s), m.word(a, s));
+        }
+        if (random.nextInt(6) > 0 && a >= 0 && a < 4 && m.slots[a] != null) {
+            int s = m.slots[a].space;
+            type(letters(random.nextBoolean() ? drawnFrom(m.slots[a]) : likeEnds(m.slots[a])));
             due("word(" + b + ", " + s + ")", x.word(b, s), m.word(b, s));
         }
         due("drawn(" + a + ", " + b + ")", x.drawn(a, b), m.drawn(a, b));
         due("drawn(" + b + ", " + a + ")", x.drawn(b, a), m.drawn(b, a));
+    }
+
+    private List<Integer> drawnFrom(Model.Word word) {
+        Model.Word drawn = word;
+        for (int k = random.nextInt(4); k > 0; k--) {
+            List<List<Integer>> next = new ArrayList<>(Model.next(m.spaces[word.space], drawn));
+            if (!next.isEmpty()) {
+                drawn = new Model.Word();
+                drawn.begin = word.begin;
+                drawn.end = word.end;
+                drawn.steps = next.get(random.nextInt(next.size()));
+            }
+        }
+        return drawn.steps;
+    }
+
+    private List<Integer> likeEnds(Model.Word word) {
+        Model.Sp sp = m.spaces[word.space];
+        for (int tries = 0; tries < 20; tries++) {
+            List<Integer> steps = walkFrom(sp, word.begin, 1 + random.nextInt(6));
+            if (!steps.isEmpty() && sp.end(steps.get(steps.size() - 1)) == word.end) {
+                return steps;
+            }
+        }
+        return word.steps;
     }
 
     private void product() {

@@ -97,7 +97,9 @@ public final class SpacesTest {
     private static void types() {
         LoopSpaces x = new LoopSpaces();
         CHECKS.same("type 0 bytes", x.type(97, 0), LoopSpaces.BAD);
-        CHECKS.same("type 9 bytes", x.type(97, 9), LoopSpaces.BAD);
+        for (int n : new int[] {9, 10, 16, 64, Integer.MAX_VALUE, Integer.MIN_VALUE}) {
+            CHECKS.same("type " + n + " bytes", x.type(Checks.packed("aaaaaaaa"), n), LoopSpaces.BAD);
+        }
         CHECKS.same("type -1 bytes", x.type(97, -1), LoopSpaces.BAD);
         CHECKS.same("byte 31", x.type(31, 1), LoopSpaces.BAD);
         CHECKS.same("byte 127", x.type(127, 1), LoopSpaces.BAD);

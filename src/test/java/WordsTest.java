@@ -13,6 +13,7 @@ public final class WordsTest {
         steps();
         drawn();
         drawnOneWay();
+        drawnAgain();
         drawnToSixteen();
         drawnUnlikeInOneStep();
         drawnRefused();
@@ -208,6 +209,25 @@ public final class WordsTest {
         drawn("2;a=0>1;b=1>1;:bb", "abbA", "", 1);
         drawn("2;a=0>1;b=1>1;:bb", "abbbbA", "", LoopSpaces.SPENT);
         drawn("2;a=0>1;b=1>1;:bb;c=0>1", "abbA", "cC", 1);
+    }
+
+    /** One answer says nothing of the next, on the same object. */
+    private static void drawnAgain() {
+        LoopSpaces x = new LoopSpaces();
+        Checks.text(x, 0, TORUS);
+        String[] words = {"ab", "ba", "aab", "baa", "aabb", "bbaa", "", "a"};
+        int[] due = {1, 2, LoopSpaces.SPENT, LoopSpaces.SPENT};
+        for (int before = 0; before < due.length; before++) {
+            for (int pair = 0; pair < due.length; pair++) {
+                for (int k : new int[] {before, pair}) {
+                    Checks.word(x, 1, 0, words[2 * k]);
+                    Checks.word(x, 2, 0, words[2 * k + 1]);
+                    CHECKS.same("pair " + k + " of " + before + ", " + pair, x.drawn(1, 2), due[k]);
+                    CHECKS.same("pair " + k + " about of " + before + ", " + pair, x.drawn(2, 1), due[k]);
+                    CHECKS.same("a word and itself", x.drawn(1, 1), 0);
+                }
+            }
+        }
     }
 
     private static void drawnToSixteen() {
