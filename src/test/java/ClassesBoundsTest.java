@@ -89,6 +89,9 @@ public final class ClassesBoundsTest {
         // the bits of the panes, from the first to the eighth
         product(";:aa;:aA;:aa;:aA;:aA;:aA;:aA;:aa", 1, 1, 1, 133);
         product(";:bB;:bB;:bB;:bB;:bB;:bB;:bB;:ll", 12, 2048, 2048, 128);
+        Story eight = BARE.text(0, loops(2) + ";:a".repeat(7).replace("a", "aA")).face(0, "abababBA");
+        BOUNDS.takes("the eighth rim of eight steps", eight, 128, "product", 0, 1, 2);
+        BOUNDS.takes("the eighth rim of eight steps", eight, 0, "product", 0, 3, 3);
     }
 
     /** "Whether PANES (bits) are NOUGHT: 1, 0. BAD." */
@@ -156,6 +159,7 @@ public final class ClassesBoundsTest {
         folds("1;a=0>0;b=0>0;:ab", 1, 1, 1, 0);
         folds("2;a=0>1;b=1>0;:ab", 1, 2, 1, 0);
         folds("2;a=0>0;b=1>1;:b", 1, 2, 1, 0);
+        folds("8;a=0>7;b=7>0;c=7>7;:ab;:c", 2, 8, 1, 0);
         Story least = BARE.text(0, "2;a=0>1;b=1>1;c=1>0;:abc").then("fold", 0);
         BOUNDS.takes("the least edge goes", least, 1, "told", 0, 0, 1);
         BOUNDS.takes("the least edge goes", least, 1, "told", 0, 0, 0);
@@ -189,6 +193,10 @@ public final class ClassesBoundsTest {
             }
         }
         BOUNDS.takes("the tree is found anew", closed, 1, "count", 0, 5);
+        Story eights = BARE.text(0, loops(4) + ";:a;:bbbbbbbb;:cccccccc;:dddddddd").then("fold", 0);
+        for (int i = 0; i < 24; i++) {
+            BOUNDS.takes("rims of eight steps", eights, i / 8, "rim", 0, i / 8, i % 8);
+        }
     }
 
     /** "SPACE 1 is joined to SPACE 0 at CORNERS 0: its other CORNERS .. CORNERS then. FULL: too many of any." */
@@ -240,6 +248,10 @@ public final class ClassesBoundsTest {
         BOUNDS.takes("the last edge", other.then("join"), 0, "told", 0, 11, 1);
         BOUNDS.takes("an edge to its last corner", other.then("join"), 7, "told", 0, 8, 1);
         BOUNDS.takes("the last rim", other.then("join"), 108, "rim", 0, 7, 2);
+        Story eights = BARE.text(0, "1;a=0>0;b=0>0" + ";:aaaaaaaa".repeat(4)).text(1, "1;a=0>0" + ";:AAAAAAAA".repeat(4));
+        for (int i = 0; i < 64; i++) {
+            BOUNDS.takes("rims of eight steps", eights.then("join"), i < 32 ? 0 : 102, "rim", 0, i / 8, i % 8);
+        }
     }
 
     /** "(SPACE 1 stays.)"; at CORNERS 0. */

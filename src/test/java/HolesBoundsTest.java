@@ -83,6 +83,8 @@ public final class HolesBoundsTest {
             holes("of one back", Story.NEW.text(0, "2;a=1>0"), 0, p, 1, 0, 0);
             holes("of two alike", Story.NEW.text(0, "2;a=0>1;b=0>1"), 0, p, 1, 1, 0);
             holes("of two about", Story.NEW.text(0, "2;a=0>1;b=1>0"), 0, p, 1, 1, 0);
+            holes("of one to the same ahead of others", Story.NEW.text(0, "3;a=0>0;b=0>1;c=0>2"), 0, p, 1, 1, 0);
+            holes("to the last corners first", Story.NEW.text(0, "4;a=3>2;b=2>1;c=1>0;d=3>0"), 0, p, 1, 1, 0);
             holes("apart from corner 0", Story.NEW.text(0, "8;a=6>7;b=7>6"), 0, p, 7, 1, 0);
         }
     }
@@ -94,6 +96,8 @@ public final class HolesBoundsTest {
             holes("along alone", Story.NEW.text(0, "1;a=0>0;:a"), 0, p, 1, 0, 0);
             holes("back alone", Story.NEW.text(0, "1;a=0>0;:A"), 0, p, 1, 0, 0);
             holes("two panes about", Story.NEW.text(0, "1;a=0>0;:a;:A"), 0, p, 1, 0, 1);
+            holes("one of nothing ahead of others", Story.NEW.text(0, "1;a=0>0;b=0>0;:aA;:a;:ab"), 0, p, 1, 0, 1);
+            holes("the last edges first", Story.NEW.text(0, "1;a=0>0;b=0>0;c=0>0;:c;:bc;:ab;:a"), 0, p, 1, 0, 1);
             holes("twice less once", Story.NEW.text(0, "1;a=0>0;:aaA"), 0, p, 1, 0, 0);
         }
     }

@@ -25,6 +25,10 @@ public final class RulesTest {
         "int product(int,int,int)", "int nought(int,int)", "int fold(int)", "int join()", "int sheet(int,int,int)",
         "int drop(int)", "int item(int,int,int,int)"};
 
+    private static final Set<String> LIBRARY =
+        Set.of("java.util.Arrays", "java.util.ArrayList", "java.util.List", "java.util.Iterator");
+    private static final Set<String> CONTROL = Set.of("if", "for", "while", "switch");
+
     public static void main(String[] args) throws IOException, ReflectiveOperationException {
         face();
         hiddenMembers();
@@ -73,12 +77,17 @@ public final class RulesTest {
         for (Class<?> inside : LoopSpaces.class.getDeclaredClasses()) {
             CHECKS.holds(inside + " is static", Modifier.isStatic(inside.getModifiers()));
             CHECKS.holds(inside + " is not public", !Modifier.isPublic(inside.getModifiers()));
-            CHECKS.holds(inside + " has few fields", inside.getDeclaredFields().length <= 20);
+            CHECKS.holds(inside + " has few fields", fieldsOf(inside) <= 20);
             for (Method method : inside.getDeclaredMethods()) {
                 CHECKS.holds(method + " bears a name of its own", !names.contains(method.getName()));
             }
         }
-        CHECKS.holds("few classes", LoopSpaces.class.getDeclaredClasses().length < 12);
+        CHECKS.holds("few classes", LoopSpaces.class.getDeclaredClasses().length < 13);
+        CHECKS.holds("few fields", fieldsOf(LoopSpaces.class) <= 20);
+    }
+
+    private static long fieldsOf(Class<?> type) {
+        return Arrays.stream(type.getDeclaredFields()).filter(field -> !Modifier.isStatic(field.getModifiers())).count();
     }
 
     private static void constants() throws IllegalAccessException {
@@ -101,8 +110,9 @@ public final class RulesTest {
     private static void source(String whole) {
         CHECKS.holds("signs 1 to 127", whole.chars().allMatch(c -> c > 0 && c < 128));
         String code = whole.replaceAll("(?s)/\\*.*?\\*/", "").replaceAll("//[^\n]*", "").replaceAll("'[^']+'", "' '");
-        for (String word : new String[] {"throw", "throws", "try", "catch", "synchronized", "assert", "double", "float",
-            "Object", "volatile", "native", "goto", "package", "protected", "hashCode", "super"}) {
+        for (String word : new String[] {"throw", "throws", "try", "catch", "synchronized", "assert",
+            "Object", "volatile", "native", "package", "protected", "hashCode", "NaN", "Thread", "Random", "System.in",
+            "System.out", "currentTimeMillis", "nanoTime"}) {
             CHECKS.holds("no " + word, !Pattern.compile("\\b" + word + "\\b").matcher(code).find());
         }
         CHECKS.holds("no lambda, no method reference", !code.contains("->") && !code.contains("::"));
@@ -110,26 +120,39 @@ public final class RulesTest {
         CHECKS.holds("nothing is named Exact", !code.contains("Exact("));
         Matcher imports = Pattern.compile("import ([\\w.]+);").matcher(code);
         while (imports.find()) {
-            CHECKS.holds("import of " + imports.group(1), imports.group(1).equals("java.util.Arrays"));
+            CHECKS.holds("import of " + imports.group(1), LIBRARY.contains(imports.group(1)));
         }
         methods(code);
     }
 
+    /** Of each method that has a body: how long it is, how many numbers it takes. */
     private static void methods(String code) {
-        Matcher method = Pattern.compile("(?m)^((?: {4}){1,2})(?! )[\\w\\[\\]. ]*\\b(\\w+)\\(([^()]*)\\) \\{$").matcher(code);
+        Matcher method = Pattern.compile("[\\w\\]>]\\s+(\\w+)\\(([^()]*)\\)\\s*\\{").matcher(code);
         int found = 0;
         while (method.find()) {
-            int end = code.indexOf("\n" + method.group(1) + "}", method.end());
-            long lines = code.substring(method.start(), end).lines().count();
-            int parameters = method.group(3).isEmpty() ? 0 : method.group(3).split(",").length;
-            CHECKS.holds(method.group(2) + " is short: " + lines, lines <= 60);
-            CHECKS.holds(method.group(2) + " takes few: " + parameters, parameters <= 7);
-            found++;
+            if (!CONTROL.contains(method.group(1))) {
+                long lines = code.substring(method.start(), bodyEnd(code, method.end())).lines().count();
+                int parameters = method.group(2).isBlank() ? 0 : method.group(2).split(",").length;
+                CHECKS.holds(method.group(1) + " is short: " + lines, lines <= 60);
+                CHECKS.holds(method.group(1) + " takes few: " + parameters, parameters <= 7);
+                found++;
+            }
         }
-        CHECKS.holds("methods were found: " + found, found > 100);
+        CHECKS.holds("methods were found: " + found, found >= METHODS.length);
     }
 
-    /** All objects are made with the first one, so a run of calls takes no more room. */
+    private static int bodyEnd(String code, int begin) {
+        int open = 1;
+        int at = begin;
+        while (at < code.length() && open > 0) {
+            char sign = code.charAt(at);
+            open += sign == '{' ? 1 : sign == '}' ? -1 : 0;
+            at++;
+        }
+        return at;
+    }
+
+    /** All calls of a run live in one room, so they must make little; here nothing at all is made behind the first ones. */
     private static void madeByCalls() {
         com.sun.management.ThreadMXBean bean = (com.sun.management.ThreadMXBean) ManagementFactory.getThreadMXBean();
         long thread = Thread.currentThread().getId();

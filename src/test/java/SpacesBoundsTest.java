@@ -29,6 +29,7 @@ public final class SpacesBoundsTest {
         facesFull();
         textSpaces();
         textNumbers();
+        textSigns();
         textClauses();
         textRims();
         textFullOfAll();
@@ -335,6 +336,12 @@ public final class SpacesBoundsTest {
         fault("C below", "0", 0);
         fault("C beyond", "9", 0);
         fault("C beyond", "10", 0);
+        for (int second = 0; second <= 9; second++) {
+            fault("C beyond, of two bytes", "1" + second, 0);
+            fault("a corner beyond, of two bytes", "8;a=1" + second + ">0", 4);
+            fault("a corner beyond, of two bytes", "8;a=0>1" + second, 6);
+            fault("a corner beyond, of two bytes", "8;a=9>" + second, 4);
+        }
         fault("C far beyond", "18446744073709551617", 0);
         fault("C far beyond", "4294967297;a=0>0", 0);
         fault("no number", "", 0);
@@ -349,6 +356,35 @@ public final class SpacesBoundsTest {
         fault("no number", "1;a=0>a", 6);
         fault("behind a number", "1a", 1);
         fault("behind a number", "2;a=0>1:", 7);
+    }
+
+    /** Each sign where it can't stand. */
+    private static void textSigns() {
+        for (char sign = 33; sign <= 126; sign++) {
+            if (sign < '1' || sign > '8') {
+                fault("no number, sign " + sign, String.valueOf(sign), 0);
+            }
+            if (sign < '0' || sign > '7') {
+                fault("no corner, sign " + sign, "8;a=" + sign + ">0", 4);
+                fault("no corner, sign " + sign, "8;a=0>" + sign, 6);
+            }
+            if (sign != ';' && (sign < '0' || sign > '9')) {
+                fault("behind a number, sign " + sign, "8" + sign, 1);
+                fault("behind an edge, sign " + sign, "8;a=7>7" + sign, 7);
+            }
+            if (sign != ':' && sign != 'a') {
+                fault("no clause, sign " + sign, "8;" + sign, 2);
+            }
+            if (sign != ':' && sign != 'b') {
+                fault("no clause, sign " + sign, "8;a=0>0;" + sign, 8);
+            }
+            if (sign != '=') {
+                fault("no =, sign " + sign, "8;a" + sign, 3);
+            }
+            if (sign != '>' && (sign < '0' || sign > '9')) {
+                fault("no >, sign " + sign, "8;a=0" + sign, 5);
+            }
+        }
     }
 
     /** "each with ; ahead of it: the next letter (a, b, ..) = CORNER > CORNER, an EDGE; or : and letters". */

@@ -1,3 +1,5 @@
+import java.util.Random;
+
 /** Promises 19 to 23: word, walk, about, step, drawn. */
 public final class WordsTest {
     private static final Checks CHECKS = new Checks();
@@ -16,6 +18,7 @@ public final class WordsTest {
         drawnAgain();
         drawnToSixteen();
         drawnUnlikeInOneStep();
+        drawnInACrowd();
         drawnRefused();
         CHECKS.end("WordsTest");
     }
@@ -260,6 +263,44 @@ public final class WordsTest {
             Checks.word(x, 1, 0, ahead);
             CHECKS.same("ends at " + place, x.drawn(0, 1), LoopSpaces.SPENT);
         }
+    }
+
+    /** As many NEXT ones as there may be, of WORDS that are one but for their last STEPS. */
+    private static void drawnInACrowd() {
+        Random random = new Random(5);
+        for (int k = 0; k < 120; k++) {
+            LoopSpaces x = new LoopSpaces();
+            Model m = new Model();
+            for (int e = 0; e < 12; e++) {
+                x.edge(0, 0, 0);
+                m.edge(0, 0, 0);
+            }
+            int length = 1 + k % 8;
+            for (int face = 0; face < 8; face++) {
+                m.tape = letters(random, k < 60 ? length : 1 + random.nextInt(8));
+                Checks.face(x, 0, m.tape);
+                m.face(0);
+            }
+            String head = letters(random, 16 - length);
+            String[] words = {head, head + letters(random, length), head.substring(1) + letters(random, 1),
+                head.substring(random.nextInt(4)) + letters(random, 1 + random.nextInt(length))};
+            for (int slot = 0; slot < 4; slot++) {
+                m.tape = words[slot];
+                Checks.word(x, slot, 0, words[slot]);
+                m.word(slot, 0);
+            }
+            for (int pair = 0; pair < 16; pair++) {
+                CHECKS.same("crowd " + k + ", pair " + pair, x.drawn(pair / 4, pair % 4), m.drawn(pair / 4, pair % 4));
+            }
+        }
+    }
+
+    private static String letters(Random random, int n) {
+        StringBuilder letters = new StringBuilder();
+        for (int i = 0; i < n; i++) {
+            letters.append("abcdABCDlL".charAt(random.nextInt(10)));
+        }
+        return letters.toString();
     }
 
     private static void drawnRefused() {
