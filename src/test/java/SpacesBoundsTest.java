@@ -358,33 +358,30 @@ public final class SpacesBoundsTest {
         fault("behind a number", "2;a=0>1:", 7);
     }
 
-    /** Each sign where it can't stand. */
-    private static void textSigns() {
+    /** Every other sign than these can't stand behind what is ahead. */
+    private static void onlySigns(String sentence, String signs, String ahead, String behind) {
         for (char sign = 33; sign <= 126; sign++) {
-            if (sign < '1' || sign > '8') {
-                fault("no number, sign " + sign, String.valueOf(sign), 0);
-            }
-            if (sign < '0' || sign > '7') {
-                fault("no corner, sign " + sign, "8;a=" + sign + ">0", 4);
-                fault("no corner, sign " + sign, "8;a=0>" + sign, 6);
-            }
-            if (sign != ';' && (sign < '0' || sign > '9')) {
-                fault("behind a number, sign " + sign, "8" + sign, 1);
-                fault("behind an edge, sign " + sign, "8;a=7>7" + sign, 7);
-            }
-            if (sign != ':' && sign != 'a') {
-                fault("no clause, sign " + sign, "8;" + sign, 2);
-            }
-            if (sign != ':' && sign != 'b') {
-                fault("no clause, sign " + sign, "8;a=0>0;" + sign, 8);
-            }
-            if (sign != '=') {
-                fault("no =, sign " + sign, "8;a" + sign, 3);
-            }
-            if (sign != '>' && (sign < '0' || sign > '9')) {
-                fault("no >, sign " + sign, "8;a=0" + sign, 5);
+            if (signs.indexOf(sign) < 0) {
+                fault(sentence + ", sign " + sign, ahead + sign + behind, ahead.length());
             }
         }
+    }
+
+    private static void textSigns() {
+        String digits = "0123456789";
+        onlySigns("C", "12345678", "", "");
+        onlySigns("behind C", ";" + digits, "8", "");
+        onlySigns("a clause", ":a", "8;", "=0>0");
+        onlySigns("the next clause", ":b", "8;a=0>0;", "=0>0");
+        onlySigns("=", "=", "8;a", "0>0");
+        onlySigns("a corner", "01234567", "8;a=", ">0");
+        onlySigns(">", ">" + digits, "8;a=0", "0");
+        onlySigns("a corner", "01234567", "8;a=0>", "");
+        onlySigns("behind an edge", ";" + digits, "8;a=7>7", "");
+        onlySigns("a rim's first letter", "aA", "8;a=7>7;:", "");
+        onlySigns("behind a rim's letter", ";aA", "8;a=7>7;:a", "");
+        onlySigns("behind eight letters", ";", "8;a=7>7;:aaaaaaaa", "");
+        onlySigns("behind a rim that does not lead back", "A", "8;a=0>7;:a", "");
     }
 
     /** "each with ; ahead of it: the next letter (a, b, ..) = CORNER > CORNER, an EDGE; or : and letters". */
