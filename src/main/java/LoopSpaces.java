@@ -460,7 +460,7 @@ public final class LoopSpaces {
         return first.corners;
     }
 
-    // ---- 5 sheets
+    // ---- 5 sheets of rows 0 .. 3: nothing (at first), or a row of a LANE: 0 bytes, 1 shorts, 2 ints, of 0 to 20 items
 
     public int sheet(int sheet, int lane, int n) {
         if (!isSheet(sheet) || !isLane(lane) || n > MOST_ITEMS) {
